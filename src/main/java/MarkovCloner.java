@@ -348,10 +348,12 @@ public final class MarkovCloner {
         int here = cell(side, currentState[side]);
         int zeros = tally[here];
         int whole = zeros + tally[here + 1];
-        if (whole < 1) {
-            return low[side];
-        }
-        return low[side] + (high[side] - low[side]) * zeros / whole;
+        return low[side] + portion(high[side] - low[side], zeros, whole);
+    }
+
+    // Counts never fall below 1, so the look at the divisor is a safeguard only.
+    private static long portion(long amount, int part, int whole) {
+        return whole < 1 ? 0 : amount * part / whole;
     }
 
     private void narrow(int side, long split, int bit) {
@@ -444,7 +446,7 @@ public final class MarkovCloner {
         // The edge may be one of the target's own, whose count changes below.
         int part = tally[edge];
         for (int x = 0; x < 2; x++) {
-            int share = whole > 0 ? tally[target + x] * part / whole : 0;
+            int share = (int) portion(tally[target + x], part, whole);
             successor[clone + x] = successor[target + x];
             tally[clone + x] = atLeastOne(share);
             tally[target + x] = atLeastOne(tally[target + x] - share);
