@@ -4,6 +4,9 @@ import java.util.Objects;
 final class Check {
     private static int wrong = 0;
     private static int made = 0;
+    private static int sentences = 0;
+    private static String part = "";
+    private static String where = "";
 
     private Check() {
     }
@@ -12,8 +15,27 @@ final class Check {
         made++;
         if (!Objects.equals(got, want)) {
             wrong++;
-            System.out.println(what + " answered " + got + ", due is " + want);
+            System.out.println(where + what + " answered " + got + ", due is " + want);
         }
+    }
+
+    /** The heading in the document under which the next sentences stand. */
+    static void part(String heading) {
+        part = heading;
+    }
+
+    /** One test for one sentence of the document, which is quoted in its own words. */
+    static void sentence(String quote, Runnable test) {
+        int before = made;
+        where = part + ", \"" + quote + "\": ";
+        try {
+            test.run();
+        } catch (RuntimeException e) {
+            due("a call", e, "an answer");
+        }
+        due("the test made checks", made > before, true);
+        where = "";
+        sentences++;
     }
 
     static boolean allRight() {
@@ -21,7 +43,8 @@ final class Check {
     }
 
     static void finish() {
-        System.out.println(made + " checks, " + wrong + " wrong");
+        String tests = sentences == 0 ? "" : " for " + sentences + " sentences";
+        System.out.println(made + " checks" + tests + ", " + wrong + " wrong");
         if (wrong != 0 || made == 0) {
             System.exit(1);
         }
@@ -85,5 +108,11 @@ final class Check {
             bits.append(bit);
         }
         return bits.toString();
+    }
+
+    /** The slot holds this message; the reader is moved to its end. */
+    static void keeps(String what, MarkovCloner x, int slot, String bits) {
+        due(what + ": open(" + slot + ")", x.open(slot), MarkovCloner.OK);
+        due(what + ": message of slot " + slot, takeAll(x), bits);
     }
 }
