@@ -1,4 +1,7 @@
-/** The sentences of "The automaton", with values worked out by hand from the document. */
+/**
+ * The sentences of "The automaton". The automata that are due come from the document's steps, not from the class:
+ * in part worked out by hand, in part from a separate copy of the steps; the comments tell c, n and the shares.
+ */
 public final class AutomatonTest extends Scenes {
     /** The first six states of (1, 8, 4, 4) and (1, 9, 4, 4) after 13 alternating bits or more. */
     private static final String SIX = " | 1 0 6 2 | 0 2 2 8 | 3 0 7 1 | 0 4 1 6 | 5 0 6 1 | 0 6 1 6";
@@ -203,14 +206,19 @@ public final class AutomatonTest extends Scenes {
         // counts 2 and 2 less 1 each: the least that a share can leave
         learned("1 is left of 2", limited(2, 8, 2, 2), "0", "3 at 2 flushes 0 | 2 1 6 2 | 0 0 1 1 | 0 0 1 1");
         // c = 4, n = 7, counts 1 and 6: shares 0 and 3
+        // c = 2, n = 8, counts 2 and 6: shares 0 and 1; a share of 0 takes nothing, and then 2 grows to 6
+        learned("2 is left of 2", limited(1, 8, 2, 4), "10", "2 at 1 flushes 0 | 1 0 6 5 | 0 0 1 1");
         learned("1 is left of 1", limited(1, 32, 4, 2), "111", "3 at 2 flushes 0 | 0 1 1 3 | 0 2 1 8 | 0 1 1 3");
     }
 
     private static void noOtherSuccessorChanges() {
         // both bits of state 0 led to state 1: only bit 0 leads to the clone
         learned("the other bit", limited(2, 8, 2, 2), "0", "3 at 2 flushes 0 | 2 1 6 2 | 0 0 1 1 | 0 0 1 1");
+        // states 0 and 4 led to state 3 with bit 1: only that of state 0 leads to the clone
+        learned("a later state", limited(3, 8, 2, 2), "1101111",
+            "7 at 6 flushes 0 | 1 6 2 9 | 2 2 1 1 | 4 0 3 1 | 2 5 1 5 | 1 3 1 5 | 4 0 3 5 | 2 5 1 4");
         // states 1 and 2 led to state 0: only bit 0 of state 2 leads to the clone
-        learned("other states", limited(2, 8, 6, 2), "000000",
+        learned("earlier states", limited(2, 8, 6, 2), "000000",
             "4 at 3 flushes 0 | 2 1 7 1 | 0 0 2 1 | 3 0 12 1 | 2 1 7 1");
     }
 

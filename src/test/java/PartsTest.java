@@ -272,8 +272,16 @@ public final class PartsTest extends Scenes {
     private static void lookChangesNothing(String name) {
         for (Scene scene : scenes()) {
             MarkovCloner x = scene.maker().get();
-            looks().stream().filter(call -> call.name().equals(name)).forEach(call -> call.call().on(x));
-            Check.due(name + " (" + scene.name() + "): what is kept", now(x), now(scene.maker().get()));
+            MarkovCloner y = scene.maker().get();
+            for (Named call : looks()) {
+                if (call.name().equals(name)) {
+                    call.call().on(x);
+                    call.call().on(y);
+                }
+            }
+            // the twins are never looked at before they are used on, so that a look can't hurt both alike
+            Check.due(name + " (" + scene.name() + "): what comes of it", usedOn(x), usedOn(scene.maker().get()));
+            Check.due(name + " (" + scene.name() + "): what is kept", now(y), now(scene.maker().get()));
         }
     }
 

@@ -23,9 +23,8 @@ public final class ReaderTest extends Scenes {
     private static void openOfAFreeSlot() {
         for (int slot = 0; slot < 3; slot++) {
             int free = slot;
-            changesNothing("new", new Scene("a new object", Scenes::archive), x -> x.open(free), NONE);
+            everySceneRefuses("open(" + free + ")", x -> x.lengthOf(free) == 0, x -> x.open(free), NONE);
         }
-        changesNothing("with the reader open on another", x -> x.open(1), NONE);
         MarkovCloner x = midst();
         due("drop", x.drop(2), OK);
         due("a freed slot", x.open(2), NONE);
@@ -94,7 +93,7 @@ public final class ReaderTest extends Scenes {
     private static void takeWhileClosed() {
         for (int n = 1; n <= 16; n++) {
             int piece = n;
-            changesNothing("new", new Scene("a new object", Scenes::archive), x -> x.take(piece), NONE);
+            everySceneRefuses("take(" + piece + ")", x -> x.readerSlot() == NONE, x -> x.take(piece), NONE);
             MarkovCloner x = opened("10110");
             due("bits", x.take(2), 0b10);
             due("drop", x.drop(0), OK);
@@ -117,6 +116,12 @@ public final class ReaderTest extends Scenes {
                     takeAt(x, bits, position, n);
                 }
             }
+        }
+        for (int n = 1; n <= 16; n++) {
+            int piece = n;
+            everySceneRefuses("take(" + piece + ")",
+                x -> x.readerSlot() >= 0 && x.position(R) + piece > x.lengthOf(x.readerSlot()),
+                x -> x.take(piece), SHORT);
         }
     }
 

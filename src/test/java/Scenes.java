@@ -1,5 +1,7 @@
 import java.util.ArrayList;
 import java.util.List;
+import java.util.function.Function;
+import java.util.function.Predicate;
 import java.util.function.Supplier;
 
 /** Archives in known states, the words of the document, and what may not change: for the tests of single sentences. */
@@ -117,8 +119,12 @@ abstract class Scenes {
      * not: the bits being written, the bits of every slot and where the decoder stands. The object is used up.
      */
     static String now(MarkovCloner x) {
-        StringBuilder text = new StringBuilder(Check.all(x));
-        text.append("\nrest ").append(Check.takeAll(x)).append(' ').append(Check.reader(x));
+        return Check.all(x) + "\n" + usedOn(x);
+    }
+
+    /** What comes of the object when it is used on, without any call that only looks. The object is used up. */
+    static String usedOn(MarkovCloner x) {
+        StringBuilder text = new StringBuilder("rest ").append(Check.takeAll(x));
         for (int slot = 0; slot < MarkovCloner.SLOTS; slot++) {
             text.append("\nslot ").append(x.open(slot)).append(' ').append(Check.takeAll(x));
         }
@@ -126,12 +132,11 @@ abstract class Scenes {
         for (int i = 0; i < MarkovCloner.MAX_BITS; i++) {
             x.put(i % 3 & 1, 1);
         }
-        text.append("\nfilled ").append(Check.writer(x)).append(' ').append(x.seal(0));
-        text.append(' ').append(x.open(0)).append(' ').append(Check.takeAll(x));
+        text.append("\nfilled ").append(x.seal(0)).append(' ').append(x.open(0)).append(' ').append(Check.takeAll(x));
         return text.toString();
     }
 
-    static void changesNothing(String what, Scene scene, Call call, int want) {
+    private static void changesNothing(String what, Scene scene, Call call, int want) {
         MarkovCloner x = scene.maker().get();
         String twin = now(scene.maker().get());
         String whole = what + " (" + scene.name() + ")";
@@ -139,25 +144,45 @@ abstract class Scenes {
         Check.due(whole + ": what is kept", now(x), twin);
     }
 
-    /** In the midst of reading and writing, so that any change would be seen. */
-    static void changesNothing(String what, Call call, int want) {
-        changesNothing(what, new Scene("in the midst", Scenes::midst), call, want);
-    }
-
     static void everySceneRefuses(String what, Call call, int want) {
-        for (Scene scene : scenes()) {
-            changesNothing(what, scene, call, want);
-        }
+        everySceneRefuses(what, x -> true, call, want);
     }
 
-    /** In every scene the act leaves the writer as it was, with the bits being written. */
-    static void leavesWriter(String what, Act act) {
+    /** The call is refused in every scene that is so, and there is such a scene. */
+    static void everySceneRefuses(String what, Predicate<MarkovCloner> isSo, Call call, int want) {
+        int met = 0;
+        for (Scene scene : scenes()) {
+            if (isSo.test(scene.maker().get())) {
+                changesNothing(what, scene, call, want);
+                met++;
+            }
+        }
+        Check.due(what + " was met in a scene", met > 0, true);
+    }
+
+    /** In every scene the act leaves the part that the view tells as it was. */
+    private static void leaves(String what, Act act, Function<MarkovCloner, String> view) {
         for (Scene scene : scenes()) {
             MarkovCloner x = scene.maker().get();
-            MarkovCloner twin = scene.maker().get();
             act.on(x);
-            Check.due(what + " (" + scene.name() + "): writer", writerNow(x), writerNow(twin));
+            Check.due(what + " (" + scene.name() + ")", view.apply(x), view.apply(scene.maker().get()));
         }
+    }
+
+    static void leavesWriter(String what, Act act) {
+        leaves(what + " leaves the writer", act, Scenes::writerNow);
+    }
+
+    static void leavesReader(String what, Act act) {
+        leaves(what + " leaves the reader", act, Scenes::readerNow);
+    }
+
+    static void leavesSlots(String what, Act act) {
+        leavesSlots(what, -1, act);
+    }
+
+    static void leavesSlots(String what, int but, Act act) {
+        leaves(what + " leaves the slots", act, x -> slotsNow(x, but));
     }
 
     private static String writerNow(MarkovCloner x) {
@@ -169,32 +194,8 @@ abstract class Scenes {
         return text + " holds " + Check.takeAll(x);
     }
 
-    /** In every scene the act leaves the reader as it was, with the rest of its message. */
-    static void leavesReader(String what, Act act) {
-        for (Scene scene : scenes()) {
-            MarkovCloner x = scene.maker().get();
-            MarkovCloner twin = scene.maker().get();
-            act.on(x);
-            Check.due(what + " (" + scene.name() + "): reader", readerNow(x), readerNow(twin));
-        }
-    }
-
     private static String readerNow(MarkovCloner x) {
         return Check.reader(x) + " rest " + Check.takeAll(x) + " end " + Check.reader(x);
-    }
-
-    /** In every scene the act leaves every slot but the one named as it was. */
-    static void leavesSlots(String what, int but, Act act) {
-        for (Scene scene : scenes()) {
-            MarkovCloner x = scene.maker().get();
-            MarkovCloner twin = scene.maker().get();
-            act.on(x);
-            Check.due(what + " (" + scene.name() + "): slots", slotsNow(x, but), slotsNow(twin, but));
-        }
-    }
-
-    static void leavesSlots(String what, Act act) {
-        leavesSlots(what, -1, act);
     }
 
     private static String slotsNow(MarkovCloner x, int but) {

@@ -23,10 +23,9 @@ public final class SlotTest extends Scenes {
     }
 
     private static void dropOfAFreeSlot() {
-        changesNothing("drop(1)", x -> x.drop(1), NONE);
         for (int slot = 0; slot < 3; slot++) {
             int free = slot;
-            changesNothing("new", new Scene("a new object", Scenes::archive), x -> x.drop(free), NONE);
+            everySceneRefuses("drop(" + free + ")", x -> x.lengthOf(free) == 0, x -> x.drop(free), NONE);
             MarkovCloner x = allFull();
             due("drop", x.drop(slot), OK);
             due("drop again", x.drop(slot), NONE);
@@ -95,10 +94,10 @@ public final class SlotTest extends Scenes {
     private static void compareOfAWrongSlot() {
         for (int wrong : WRONG_SLOTS) {
             for (int slot = 0; slot < 3; slot++) {
-                // slot 1 is free
+                // free in some scenes, held in others
                 int other = slot;
-                changesNothing("compare(" + wrong + ", " + other + ")", x -> x.compare(wrong, other), BAD);
-                changesNothing("compare(" + other + ", " + wrong + ")", x -> x.compare(other, wrong), BAD);
+                everySceneRefuses("compare(" + wrong + ", " + other + ")", x -> x.compare(wrong, other), BAD);
+                everySceneRefuses("compare(" + other + ", " + wrong + ")", x -> x.compare(other, wrong), BAD);
             }
             for (int second : WRONG_SLOTS) {
                 everySceneRefuses("compare(" + wrong + ", " + second + ")", x -> x.compare(wrong, second), BAD);
@@ -107,13 +106,11 @@ public final class SlotTest extends Scenes {
     }
 
     private static void compareOfAFreeSlot() {
-        changesNothing("b is free", x -> x.compare(0, 1), NONE);
-        changesNothing("a is free", x -> x.compare(1, 0), NONE);
-        changesNothing("a == b", x -> x.compare(1, 1), NONE);
-        for (int a = 0; a < 3; a++) {
-            for (int b = 0; b < 3; b++) {
-                due("new, compare(" + a + ", " + b + ")", archive().compare(a, b), NONE);
-            }
+        for (int i = 0; i < 9; i++) {
+            int a = i / 3;
+            int b = i % 3;
+            everySceneRefuses("compare(" + a + ", " + b + ")", x -> x.lengthOf(a) == 0 || x.lengthOf(b) == 0,
+                x -> x.compare(a, b), NONE);
         }
         MarkovCloner x = allFull();
         due("drop(2)", x.drop(2), OK);
@@ -194,7 +191,7 @@ public final class SlotTest extends Scenes {
     }
 
     private static void lengthOfAFreeSlot() {
-        changesNothing("free", x -> x.lengthOf(1), 0);
+        due("free beside held ones", midst().lengthOf(1), 0);
         for (int slot = 0; slot < 3; slot++) {
             due("new", archive().lengthOf(slot), 0);
             MarkovCloner x = allFull();
@@ -211,8 +208,8 @@ public final class SlotTest extends Scenes {
                 due("lengthOf(" + slot + ")", x.lengthOf(slot), length);
             }
         }
-        changesNothing("the slot the reader is open on", x -> x.lengthOf(0), 19);
-        changesNothing("another slot", x -> x.lengthOf(2), 5);
+        due("the slot the reader is open on", midst().lengthOf(0), 19);
+        due("another slot", midst().lengthOf(2), 5);
     }
 
     public static void main(String[] args) {

@@ -96,6 +96,8 @@ public final class StartTest extends Scenes {
         // the two states take turns: the counts of bit 0 are 2 and 2, then 6 and 2, then 6 and 6, and so on
         for (int given : new int[] {MIN, -1, 0, 1, 2}) {
             due("t1 = " + given + " clones at a count of 2", statesAfterZeros(given, 1), 3);
+            // the clone that the first zero makes has counts of 1, and leads to a state with n = 5 + 1
+            due("t1 = " + given + " does not clone at 1", statesAfter(given, 2, "00"), 2);
         }
         due("t1 = 3 does not clone at 2", statesAfterZeros(3, 1), 2);
         // c is 62 at the 31st bit and 66 at the 33rd; n - c is 2, the successor's count of bit 1

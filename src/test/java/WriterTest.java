@@ -59,8 +59,8 @@ public final class WriterTest extends Scenes {
                 }
             }
         }
-        changesNothing("put(0, 1)", new Scene("all full", Scenes::allFull), x -> x.put(0, 1), FULL);
-        changesNothing("put(-1, 16)", new Scene("all full", Scenes::allFull), x -> x.put(-1, 16), FULL);
+        everySceneRefuses("put(0, 1)", x -> x.position(W) == 80, x -> x.put(0, 1), FULL);
+        everySceneRefuses("put(-1, 16)", x -> x.position(W) > 64, x -> x.put(-1, 16), FULL);
     }
 
     private static void eachBitInTurn() {
@@ -106,10 +106,8 @@ public final class WriterTest extends Scenes {
     private static void sealOfAHeldSlot() {
         for (int slot = 0; slot < 3; slot++) {
             int held = slot;
-            changesNothing("seal(" + held + ")", new Scene("all full", Scenes::allFull), x -> x.seal(held), BUSY);
+            everySceneRefuses("seal(" + held + ")", x -> x.lengthOf(held) > 0, x -> x.seal(held), BUSY);
         }
-        changesNothing("the slot the reader is open on", x -> x.seal(0), BUSY);
-        changesNothing("another held slot", x -> x.seal(2), BUSY);
         MarkovCloner x = archive();
         Check.store(x, 0, "1");
         due("a held slot, nothing written", x.seal(0), BUSY);
@@ -122,7 +120,8 @@ public final class WriterTest extends Scenes {
     private static void sealOfNothing() {
         for (int slot = 0; slot < 3; slot++) {
             int free = slot;
-            changesNothing("new", new Scene("a new object", Scenes::archive), x -> x.seal(free), NONE);
+            everySceneRefuses("seal(" + free + ")", x -> x.lengthOf(free) == 0 && x.position(W) == 0,
+                x -> x.seal(free), NONE);
         }
         MarkovCloner x = written(1);
         x.discard();
@@ -198,10 +197,9 @@ public final class WriterTest extends Scenes {
     }
 
     private static void recodeOfAFreeSlot() {
-        changesNothing("recode(1)", x -> x.recode(1), NONE);
         for (int slot = 0; slot < 3; slot++) {
             int free = slot;
-            changesNothing("new", new Scene("a new object", Scenes::archive), x -> x.recode(free), NONE);
+            everySceneRefuses("recode(" + free + ")", x -> x.lengthOf(free) == 0, x -> x.recode(free), NONE);
         }
         MarkovCloner x = midst();
         due("drop(0)", x.drop(0), OK);
@@ -225,8 +223,10 @@ public final class WriterTest extends Scenes {
             }
         }
         for (int slot = 0; slot < 3; slot++) {
-            int full = slot;
-            changesNothing("recode(" + full + ")", new Scene("all full", Scenes::allFull), x -> x.recode(full), FULL);
+            int held = slot;
+            everySceneRefuses("recode(" + held + ")",
+                x -> x.lengthOf(held) > 0 && x.lengthOf(held) + x.position(W) > 80,
+                x -> x.recode(held), FULL);
         }
     }
 
