@@ -2,7 +2,11 @@ import java.util.Objects;
 
 /** Collects wrong answers, and tells all that can be seen of an archive. */
 final class Check {
+    // a broken class can give a million wrong answers: the first ones of each sentence are enough
+    private static final int SHOWN = 20;
+
     private static int wrong = 0;
+    private static int wrongHere = 0;
     private static int made = 0;
     private static int sentences = 0;
     private static String part = "";
@@ -15,7 +19,10 @@ final class Check {
         made++;
         if (!Objects.equals(got, want)) {
             wrong++;
-            System.out.println(where + what + " answered " + got + ", due is " + want);
+            wrongHere++;
+            if (wrongHere <= SHOWN) {
+                System.out.println(where + what + " answered " + got + ", due is " + want);
+            }
         }
     }
 
@@ -27,6 +34,7 @@ final class Check {
     /** One test for one sentence of the document, which is quoted in its own words. */
     static void sentence(String quote, Runnable test) {
         int before = made;
+        wrongHere = 0;
         where = part + ", \"" + quote + "\": ";
         try {
             test.run();

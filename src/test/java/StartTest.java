@@ -176,12 +176,14 @@ public final class StartTest extends Scenes {
         Model m = new Model(limits[0], limits[1], limits[2], limits[3]);
         int row = 20261115;
         for (int message = 0; message < 40; message++) {
-            for (int run = 1; x.position(W) < 80; run++) {
+            int length = 0;
+            for (int run = 1; length < 80; run++) {
                 row = row * 69069 + 1;
-                int length = Math.min(80 - x.position(W), 1 + (row >>> 28));
+                int n = Math.min(80 - length, 1 + (row >>> 28));
                 int bits = (row >>> 27 & 1) == 0 ? 0 : (row >>> 26 & 1) == 0 ? 0x5555 : row >>> 8;
-                due("put", x.put(run % 2 == 0 ? bits : ~bits, length), OK);
-                m.put(run % 2 == 0 ? bits : ~bits, length);
+                int value = run % 2 == 0 ? bits : ~bits;
+                due("put", x.put(value, n), m.put(value, n));
+                length += n;
             }
             Check.due("limits " + Arrays.toString(limits), Check.all(x), m.all());
             all.append(Check.writer(x)).append('\n');
