@@ -32,6 +32,13 @@ abstract class Scenes {
     static final String ALTERNATING = "01".repeat(20);
     static final String FULL_LENGTH = "0110100111010001".repeat(5);
 
+    /** Runs of 80 bits. Their codes are the shortest, and the code of zeros may have no length at all. */
+    static final String ZEROS = "0".repeat(80);
+    static final String ONES = "1".repeat(80);
+
+    /** The edges of what a slot can hold. */
+    static final String[] EDGE_MESSAGES = {"0", "1", "00", "11", ZEROS.substring(1), ZEROS, ONES, FULL_LENGTH};
+
     interface Call {
         int on(MarkovCloner x);
     }
@@ -103,6 +110,17 @@ abstract class Scenes {
         return x;
     }
 
+    private static MarkovCloner onlyRuns() {
+        MarkovCloner x = archive();
+        Check.store(x, 0, "0");
+        Check.store(x, 1, ZEROS);
+        Check.store(x, 2, ONES);
+        due("open(1)", x.open(1), OK);
+        due("take(16)", x.take(16), 0);
+        Check.putAll(x, "00");
+        return x;
+    }
+
     static List<Scene> scenes() {
         return List.of(
             new Scene("a new object", Scenes::archive),
@@ -111,6 +129,7 @@ abstract class Scenes {
             new Scene("in the midst", Scenes::midst),
             new Scene("flushed", Scenes::flushed),
             new Scene("closed by drop", Scenes::closedByDrop),
+            new Scene("only runs", Scenes::onlyRuns),
             new Scene("all full", Scenes::allFull));
     }
 

@@ -43,11 +43,16 @@ public final class SlotTest extends Scenes {
             due("used again", x.seal(slot), OK);
             Check.keeps("used again", x, slot, FULL_LENGTH);
         }
-        MarkovCloner x = archive();
-        Check.store(x, 1, FULL_LENGTH);
-        due("drop of 80 bits", x.drop(1), OK);
-        Check.store(x, 1, "0");
-        Check.keeps("one bit after 80", x, 1, "0");
+        for (String first : EDGE_MESSAGES) {
+            for (String second : EDGE_MESSAGES) {
+                MarkovCloner x = archive();
+                Check.store(x, 1, first);
+                due("drop of " + first, x.drop(1), OK);
+                due("free", x.lengthOf(1), 0);
+                Check.store(x, 1, second);
+                Check.keeps("after " + first, x, 1, second);
+            }
+        }
     }
 
     private static void dropClosesItsReader() {
@@ -120,8 +125,25 @@ public final class SlotTest extends Scenes {
     }
 
     private static void order(String a, String b, int want) {
-        MarkovCloner x = holding(a, b);
-        due(a + " with " + b, x.compare(0, 2), want);
+        due(a + " with " + b, holding(a, b).compare(0, 2), want);
+        for (String[] before : new String[][] {{ONES, ZEROS}, {ZEROS, ONES}, {FULL_LENGTH, ONES}}) {
+            MarkovCloner x = comparedBefore(before[0], before[1]);
+            Check.store(x, 0, a);
+            Check.store(x, 2, b);
+            due(a + " with " + b + ", other ones before", x.compare(0, 2), want);
+            due(a + " with " + b + ", once more", x.compare(0, 2), want);
+        }
+    }
+
+    /** The longest messages have been compared and recoded: whatever is left of them may decide nothing. */
+    private static MarkovCloner comparedBefore(String first, String second) {
+        MarkovCloner x = holding(first, second);
+        due("recode", x.recode(2), OK);
+        x.discard();
+        Check.due("compare", x.compare(0, 2) > 0, true);
+        due("drop", x.drop(0), OK);
+        due("drop", x.drop(2), OK);
+        return x;
     }
 
     private static void sameLengthAndBits() {

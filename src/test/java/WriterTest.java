@@ -108,13 +108,17 @@ public final class WriterTest extends Scenes {
             int held = slot;
             everySceneRefuses("seal(" + held + ")", x -> x.lengthOf(held) > 0, x -> x.seal(held), BUSY);
         }
-        MarkovCloner x = archive();
-        Check.store(x, 0, "1");
-        due("a held slot, nothing written", x.seal(0), BUSY);
-        due("drop", x.drop(0), OK);
-        due("a freed slot, nothing written", x.seal(0), NONE);
-        Check.store(x, 0, "0");
-        Check.keeps("a freed slot can be used", x, 0, "0");
+        for (String held : EDGE_MESSAGES) {
+            MarkovCloner x = archive();
+            Check.store(x, 0, held);
+            due("a held slot, nothing written", x.seal(0), BUSY);
+            due("put", x.put(0b101, 3), OK);
+            due("a held slot", x.seal(0), BUSY);
+            Check.keeps("it is kept", x, 0, held);
+            due("drop", x.drop(0), OK);
+            due("a freed slot", x.seal(0), OK);
+            Check.keeps("a freed slot can be used", x, 0, "101");
+        }
     }
 
     private static void sealOfNothing() {
