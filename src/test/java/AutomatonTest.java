@@ -34,6 +34,29 @@ public final class AutomatonTest extends Scenes {
         String reader = Check.automaton(x, R);
         Check.putAll(x, FULL_LENGTH);
         Check.due("writing leaves the reader's at its place", Check.automaton(x, R), reader);
+        bothOfTheGreatestSize();
+    }
+
+    private static void bothOfTheGreatestSize() {
+        MarkovCloner x = limited(1, 32, 2, 2);
+        int states = 1;
+        int length = 0;
+        for (int bits = 7; length < 80 && states < 32; length++) {
+            bits = bits * 69069 + 1;
+            due("put", x.put(bits >>> 31, 1), OK);
+            states = x.states(W);
+        }
+        due("32 states", states, 32);
+        String whole = Check.automaton(x, W);
+        due("seal", x.seal(2), OK);
+        due("open", x.open(2), OK);
+        due("bits read", Check.takeAll(x).length(), length);
+        Check.due("32 states of the reader", Check.automaton(x, R), whole);
+        due("recode", x.recode(2), OK);
+        Check.due("32 states of the writer beside them", Check.automaton(x, W), whole);
+        Check.due("which stay", Check.automaton(x, R), whole);
+        x.discard();
+        Check.due("which stay after discard", Check.automaton(x, R), whole);
     }
 
     private static void statesAndCountsInRange() {
@@ -205,9 +228,9 @@ public final class AutomatonTest extends Scenes {
     private static void originalCountsAtLeastOne() {
         // counts 2 and 2 less 1 each: the least that a share can leave
         learned("1 is left of 2", limited(2, 8, 2, 2), "0", "3 at 2 flushes 0 | 2 1 6 2 | 0 0 1 1 | 0 0 1 1");
-        // c = 4, n = 7, counts 1 and 6: shares 0 and 3
         // c = 2, n = 8, counts 2 and 6: shares 0 and 1; a share of 0 takes nothing, and then 2 grows to 6
         learned("2 is left of 2", limited(1, 8, 2, 4), "10", "2 at 1 flushes 0 | 1 0 6 5 | 0 0 1 1");
+        // the third one: c = 4, n = 7, counts 1 and 6: shares 0 and 3; then 4 grows to 8
         learned("1 is left of 1", limited(1, 32, 4, 2), "111", "3 at 2 flushes 0 | 0 1 1 3 | 0 2 1 8 | 0 1 1 3");
     }
 

@@ -46,6 +46,11 @@ final class Check {
         sentences++;
     }
 
+    /** No answer was wrong in the sentence that is being tested. */
+    static boolean rightHere() {
+        return wrongHere == 0;
+    }
+
     static boolean allRight() {
         return wrong == 0;
     }

@@ -205,7 +205,17 @@ public final class PartsTest extends Scenes {
         }
     }
 
+    /** If not, the calls with edges would go through as many bits as an int can tell. */
+    private static boolean piecesAreLimited() {
+        due("put of 17 bits", archive().put(0, 17), BAD);
+        due("take of 17 bits", allFull().take(17), BAD);
+        return Check.rightHere();
+    }
+
     private static void anyIntsAreAnswered() {
+        if (!piecesAreLimited()) {
+            return;
+        }
         for (Scene scene : scenes()) {
             for (Named call : everyCall()) {
                 int answer = call.call().on(scene.maker().get());
@@ -248,6 +258,9 @@ public final class PartsTest extends Scenes {
     }
 
     private static void refusedCallsChangeNothing() {
+        if (!piecesAreLimited()) {
+            return;
+        }
         Set<String> seen = new TreeSet<>();
         for (Scene scene : scenes()) {
             String twin = now(scene.maker().get());

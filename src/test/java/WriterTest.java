@@ -243,11 +243,14 @@ public final class WriterTest extends Scenes {
         Check.due("learned as by put", Check.writer(x), Check.writer(same));
         due("seal", x.seal(1), OK);
         Check.keeps("appended", x, 1, "1011010" + "1100101011110000101" + "11001");
-        MarkovCloner one = archive();
-        Check.store(one, 0, "1");
-        due("recode of one bit", one.recode(0), OK);
-        due("seal", one.seal(1), OK);
-        Check.keeps("one bit", one, 1, "1");
+        for (String bits : EDGE_MESSAGES) {
+            MarkovCloner edge = archive();
+            Check.store(edge, 0, bits);
+            due("recode of " + bits, edge.recode(0), OK);
+            Check.due("learned as by put", Check.writer(edge), Check.writer(putOf(bits)));
+            due("seal", edge.seal(1), OK);
+            Check.keeps("recoded", edge, 1, bits);
+        }
     }
 
     private static void exactlyMaxBitsByRecode() {
